@@ -1,0 +1,71 @@
+/** What all tests share: counts wrong answers, prints each, and ends with exit code 1 if there was one. */
+final class Check {
+    private static int wrong = 0;
+    private static int looked = 0;
+
+    private Check() {
+    }
+
+    static void same(String what, long got, long due) {
+        looked++;
+        if (got != due) {
+            tell(what + " answered " + got + ", due is " + due);
+        }
+    }
+
+    static void same(String what, String got, String due) {
+        looked++;
+        if (!got.equals(due)) {
+            tell(what + " answered \"" + got + "\", due is \"" + due + "\"");
+        }
+    }
+
+    static void fails(String what, Class<? extends RuntimeException> due, Runnable call) {
+        looked++;
+        try {
+            call.run();
+            tell(what + " answered, due is " + due.getSimpleName());
+        } catch (RuntimeException e) {
+            if (e.getClass() != due) {
+                tell(what + " throws " + e + ", due is " + due.getSimpleName());
+            }
+        }
+    }
+
+    /** The whole text, as at answers it. */
+    static String text(WeaveCore x) {
+        StringBuilder all = new StringBuilder();
+        for (int i = 0; i < x.length(); i++) {
+            all.appendCodePoint(x.at(i));
+        }
+        return all.toString();
+    }
+
+    /** The text of the first n events, as wasAt answers it. */
+    static String oldText(WeaveCore x, int n) {
+        StringBuilder all = new StringBuilder();
+        for (int i = 0; i < x.was(n); i++) {
+            all.appendCodePoint(x.wasAt(n, i));
+        }
+        return all.toString();
+    }
+
+    /** An object whose agent 5 wrote "abcdef" as its events 0 to 5. */
+    static WeaveCore sixLetters() {
+        WeaveCore x = new WeaveCore();
+        x.insert(5, 0, 'a', 6);
+        return x;
+    }
+
+    static void end() {
+        System.out.println("  " + looked + " answers looked at, " + wrong + " wrong");
+        if (wrong != 0) {
+            System.exit(1);
+        }
+    }
+
+    private static void tell(String what) {
+        wrong++;
+        System.out.println("  " + what);
+    }
+}
