@@ -346,7 +346,7 @@ public final class WeaveCore {
             Node fresh = new Node(author, before, code + i);
             hang(fresh, left);
             textLength++;
-            record(fresh);
+            keep(fresh);
             left = fresh;
         }
     }
@@ -375,12 +375,12 @@ public final class WeaveCore {
             }
             cut.other = node.cuts;
             node.cuts = cut;
-            record(cut);
+            keep(cut);
             node = nextSeen(node);
         }
     }
 
-    private void record(Event event) {
+    private void keep(Event event) {
         event.arrival = arrived.size();
         event.lengthThen = textLength;
         event.agent.history.add(event);

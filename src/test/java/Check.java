@@ -57,6 +57,18 @@ final class Check {
         return x;
     }
 
+    /** The same letters, of which two agents deleted "ab" and "bc", and a third wrote "x" behind "ab". */
+    static WeaveCore threeBranches() {
+        WeaveCore x = sixLetters();
+        x.parent(5, 5);
+        x.delete(1, 0, 2);
+        x.parent(5, 5);
+        x.delete(2, 1, 2);
+        x.parent(5, 1);
+        x.insert(3, 2, 'x', 1);
+        return x;
+    }
+
     static void end() {
         System.out.println("  " + looked + " answers looked at, " + wrong + " wrong");
         if (wrong != 0) {

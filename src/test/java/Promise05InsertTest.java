@@ -6,6 +6,8 @@ public final class Promise05InsertTest {
         siblingsGoByTheirIds();
         hangsAtTheLeftOfTheNext();
         hangsAtTheLeftOfADeletedOne();
+        hangsAtTheRightOfWhatHasNone();
+        goesBehindAllBelowASmallerOne();
         refusesArgumentsAndKeepsTheList();
         refusesListsAndEmptiesThem();
         refusesAnIndexBehindTheSeen();
@@ -83,6 +85,32 @@ public final class Promise05InsertTest {
         Check.same("spot of what is at the left of the deleted b", x.spot(8, 0), 1);
         Check.same("spot of b", x.spot(5, 1), 2);
         Check.same("text", Check.text(x), "ayxc");
+    }
+
+    private static void hangsAtTheRightOfWhatHasNone() {
+        WeaveCore x = new WeaveCore();
+        x.insert(5, 0, 'a', 2);
+        x.parent(5, 1);
+        x.insert(3, 1, 'x', 1);
+        x.parent(5, 1);
+        x.insert(9, 1, 'z', 1);
+        x.parent(3, 0);
+        x.insert(10, 2, 'y', 1);
+        Check.same("y is below x, not beside it", Check.text(x), "axyzb");
+    }
+
+    private static void goesBehindAllBelowASmallerOne() {
+        WeaveCore x = new WeaveCore();
+        x.insert(1, 0, 'a', 1);
+        x.parent(1, 0);
+        x.insert(2, 1, 'x', 2);
+        x.parent(1, 0);
+        x.insert(4, 1, 'u', 2);
+        x.parent(1, 0);
+        x.insert(3, 1, 'p', 2);
+        x.insert(9, 0, 'z', 1);
+        x.insert(0, 0, '.', 1);
+        Check.same("text", Check.text(x), ".axypquvz");
     }
 
     private static void refusesArgumentsAndKeepsTheList() {

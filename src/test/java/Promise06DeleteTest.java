@@ -38,6 +38,8 @@ public final class Promise06DeleteTest {
         x.parent(3, 0);
         Check.same("one sees only its own", x.seen(), 5);
         Check.same("and deletes there", x.delete(3, 2, 1), 2);
+        x.parent(1, 2);
+        Check.same("so does the first who deleted it", x.seen(), 3);
     }
 
     private static void skipsWhatItDoesNotSee() {

@@ -1,13 +1,7 @@
 /** Promise 11: was answers how long the text of the first n events is. */
 public final class Promise11WasTest {
     public static void main(String[] args) {
-        WeaveCore x = Check.sixLetters();
-        x.parent(5, 5);
-        x.delete(1, 0, 2);
-        x.parent(5, 5);
-        x.delete(2, 1, 2);
-        x.parent(5, 1);
-        x.insert(3, 2, 'x', 1);
+        WeaveCore x = Check.threeBranches();
         int[] due = {0, 1, 2, 3, 4, 5, 6, 5, 4, 4, 3, 4};
         for (int n = 0; n < due.length; n++) {
             Check.same("was(" + n + ")", x.was(n), due[n]);

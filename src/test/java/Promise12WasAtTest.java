@@ -1,13 +1,7 @@
 /** Promise 12: wasAt answers the codes of the text of the first n events. */
 public final class Promise12WasAtTest {
     public static void main(String[] args) {
-        WeaveCore x = Check.sixLetters();
-        x.parent(5, 5);
-        x.delete(1, 0, 2);
-        x.parent(5, 5);
-        x.delete(2, 1, 2);
-        x.parent(5, 1);
-        x.insert(3, 2, 'x', 1);
+        WeaveCore x = Check.threeBranches();
         String[] due = {"", "a", "ab", "abc", "abcd", "abcde", "abcdef", "bcdef", "cdef", "cdef", "def", "xdef"};
         for (int n = 0; n < due.length; n++) {
             Check.same("the text of " + n, Check.oldText(x, n), due[n]);
