@@ -28,8 +28,14 @@ final class Check {
         } catch (RuntimeException e) {
             if (e.getClass() != due) {
                 tell(what + " throws " + e + ", due is " + due.getSimpleName());
+            } else if (!isThrownByTheClass(e)) {
+                tell(what + " lets the library throw, which rule 7 of LANGUAGE.md rules out");
             }
         }
+    }
+
+    private static boolean isThrownByTheClass(RuntimeException e) {
+        return e.getStackTrace()[0].getClassName().equals("WeaveCore");
     }
 
     /** The whole text, as at answers it. */
@@ -66,6 +72,33 @@ final class Check {
         x.delete(2, 1, 2);
         x.parent(5, 1);
         x.insert(3, 2, 'x', 1);
+        return x;
+    }
+
+    /** An object of 8192 events: each of three agents in turn wrote 100 behind all that there was. */
+    static WeaveCore full() {
+        WeaveCore x = allButTwo();
+        x.heads();
+        x.insert(2, 8190, 'y', 2);
+        return x;
+    }
+
+    /** The same, without the last two. */
+    static WeaveCore allButTwo() {
+        WeaveCore x = new WeaveCore();
+        for (int come = 0; come < 8190; come += 100) {
+            x.heads();
+            x.insert(come / 100 % 3, come, 'a', Math.min(100, 8190 - come));
+        }
+        return x;
+    }
+
+    /** An object of 16 agents, 0, 17, .. 255, each with one letter, who saw nothing of one another. */
+    static WeaveCore sixteenAgents() {
+        WeaveCore x = new WeaveCore();
+        for (int i = 0; i < 16; i++) {
+            x.insert(17 * i, 0, 'a' + i, 1);
+        }
         return x;
     }
 
