@@ -1,44 +1,79 @@
+import java.util.Set;
+import java.util.TreeSet;
 import java.util.function.LongSupplier;
 
-/** All promises: long runs of calls, right and wrong ones mixed, against the model of the document. */
+/**
+ * All promises: runs of the 512 calls that an object is made for, right and wrong ones mixed, against
+ * the model of the document: many runs of small edits, and some that fill the graph.
+ */
 public final class AgainstModelTest {
-    private static final int RUNS = 150;
-    private static final int CALLS = 160;
+    private static final int SMALL_RUNS = 150;
+    private static final int LARGE_RUNS = 6;
+    private static final int CALLS = 512;
+    private static final int ONLY_QUESTIONS_FROM = 450;
+    private static final long ROOM_FOR_DEEP_TREES = 1L << 29;
+    private static final Set<String> thrown = new TreeSet<>();
+    private static int mostEvents = 0;
 
     private final Dice dice;
     private final int[] names;
+    private final int mostAtOnce;
     private final WeaveCore x = new WeaveCore();
     private final Model model = new Model();
     private final String run;
+    private int calls = 0;
 
-    private AgainstModelTest(int seed) {
-        dice = new Dice(seed);
-        run = "run " + seed + ": ";
-        names = new int[seed % 10 == 0 ? 18 : 2 + seed % 6];
+    private AgainstModelTest(int seed, int agents, int mostAtOnce) {
+        this.dice = new Dice(seed);
+        this.mostAtOnce = mostAtOnce;
+        this.run = "run " + seed + " of edits of up to " + mostAtOnce + ": ";
+        this.names = new int[agents];
         for (int i = 0; i < names.length; i++) {
             names[i] = (seed * 31 + i * 97) % 256;
         }
     }
 
-    public static void main(String[] args) {
-        for (int seed = 1; seed <= RUNS; seed++) {
-            AgainstModelTest test = new AgainstModelTest(seed);
-            for (int i = 0; i < CALLS; i++) {
-                test.oneCall(i);
-            }
-            test.wholeState();
-        }
+    public static void main(String[] args) throws InterruptedException {
+        Thread runs = new Thread(null, AgainstModelTest::allRuns, "runs", ROOM_FOR_DEEP_TREES);
+        runs.start();
+        runs.join();
+        Check.same("a graph without room for 100 more", mostEvents > 8092 ? 1 : 0, 1);
+        Check.same("what was thrown", thrown.toString(), "[IllegalArgumentException, IllegalStateException,"
+                + " IndexOutOfBoundsException, NoSuchElementException, UnsupportedOperationException]");
         Check.end();
     }
 
-    private void oneCall(int i) {
-        switch (dice.below(10)) {
+    private static void allRuns() {
+        for (int seed = 1; seed <= SMALL_RUNS; seed++) {
+            new AgainstModelTest(seed, seed % 10 == 0 ? 18 : 2 + seed % 6, 3).allCalls();
+        }
+        for (int seed = 1; seed <= LARGE_RUNS; seed++) {
+            new AgainstModelTest(seed, 1 + seed % 4 * 5, 100).allCalls();
+        }
+    }
+
+    private void allCalls() {
+        while (calls < ONLY_QUESTIONS_FROM) {
+            someCalls();
+        }
+        while (calls < CALLS) {
+            ask();
+        }
+        mostEvents = Math.max(mostEvents, model.events(-1));
+    }
+
+    private void someCalls() {
+        switch (dice.below(fillsTheGraph() ? 6 : 10)) {
             case 0, 1, 2 -> edit(false);
             case 3 -> edit(true);
             case 4 -> listSome();
             case 5 -> callHeads();
-            default -> ask(i);
+            default -> ask();
         }
+    }
+
+    private boolean fillsTheGraph() {
+        return mostAtOnce == 100;
     }
 
     private int name() {
@@ -52,20 +87,36 @@ public final class AgainstModelTest {
             callHeads();
         } else if (!dice.oneIn(12)) {
             callParent(agent, lastNumber(agent));
-            listSome();
+            if (!fillsTheGraph() || dice.oneIn(4)) {
+                listSome();
+            }
         }
-        int seen = (int) answer(() -> model.seen());
-        int n = dice.oneIn(40) ? dice.below(120) - 5 : 1 + dice.below(3);
+        int n = n();
+        int seen = seenOrNone();
         int most = deletes ? seen - n : seen;
         int index = dice.oneIn(20) ? dice.below(60) - 5 : dice.below(Math.max(0, most) + 1);
         if (deletes) {
             compare("delete(" + agent + ", " + index + ", " + n + ")",
                     () -> x.delete(agent, index, n), () -> model.delete(agent, index, n));
         } else {
-            int code = dice.oneIn(50) ? 1114105 + dice.below(12) : dice.oneIn(3) ? 8 + dice.below(4) : dice.below(99);
+            int code = code();
             compare("insert(" + agent + ", " + index + ", " + code + ", " + n + ")",
                     () -> x.insert(agent, index, code, n), () -> model.insert(agent, index, code, n));
         }
+    }
+
+    private int n() {
+        if (dice.oneIn(40)) {
+            return dice.below(120) - 5;
+        }
+        return fillsTheGraph() && !dice.oneIn(4) ? mostAtOnce : 1 + dice.below(mostAtOnce);
+    }
+
+    private int code() {
+        if (dice.oneIn(50)) {
+            return 1114105 + dice.below(12);
+        }
+        return dice.oneIn(3) ? 8 + dice.below(4) : dice.below(99);
     }
 
     private int lastNumber(int agent) {
@@ -73,10 +124,10 @@ public final class AgainstModelTest {
     }
 
     private void listSome() {
-        for (int i = dice.below(4); i > 0; i--) {
+        for (int i = dice.oneIn(30) ? 20 : dice.below(4); i > 0; i--) {
             int agent = name();
             int last = lastNumber(agent);
-            callParent(agent, dice.oneIn(3) ? last - dice.below(5) : last);
+            callParent(agent, dice.oneIn(3) ? last - dice.below(2 * mostAtOnce) : last);
         }
         compare("seen()", () -> x.seen(), () -> model.seen());
     }
@@ -90,63 +141,48 @@ public final class AgainstModelTest {
         compare("heads()", () -> x.heads(), () -> model.heads());
     }
 
-    private void ask(int i) {
+    private void ask() {
         int index = dice.below(model.length() + 3) - 1;
         int n = dice.below(model.events(-1) + 3) - 1;
         int agent = dice.oneIn(10) ? -1 : name();
-        int number = dice.below(20) - 1;
-        switch (i % 8) {
+        int number = dice.below(lastNumber(agent) + 4) - 1;
+        int line = dice.below(model.line(-1) + 4) - 2;
+        switch (dice.below(9)) {
             case 0 -> compare("length()", () -> x.length(), () -> model.length());
-            case 1 -> compare("at(" + index + ")", () -> x.at(index), () -> model.at(index));
-            case 2 -> compare("who(" + index + ")", () -> x.who(index), () -> model.who(index));
-            case 3 -> compare("spot(" + agent + ", " + number + ")",
+            case 1, 2 -> compare("at(" + index + ")", () -> x.at(index), () -> model.at(index));
+            case 3 -> compare("who(" + index + ")", () -> x.who(index), () -> model.who(index));
+            case 4 -> compare("spot(" + agent + ", " + number + ")",
                     () -> x.spot(agent, number), () -> model.spot(agent, number));
-            case 4 -> compare("was(" + n + ")", () -> x.was(n), () -> model.was(n));
-            case 5 -> compare("wasAt(" + n + ", " + index + ")",
+            case 5 -> compare("was(" + n + ")", () -> x.was(n), () -> model.was(n));
+            case 6 -> compare("wasAt(" + n + ", " + index + ")",
                     () -> x.wasAt(n, index), () -> model.wasAt(n, index));
-            case 6 -> compare("line(" + (number - 2) + ")", () -> x.line(number - 2), () -> model.line(number - 2));
+            case 7 -> compare("line(" + line + ")", () -> x.line(line), () -> model.line(line));
             default -> compare("events(" + agent + ")", () -> x.events(agent), () -> model.events(agent));
         }
     }
 
-    private void wholeState() {
-        int length = model.length();
-        Check.same(run + "length()", x.length(), length);
-        for (int i = 0; i < length; i++) {
-            Check.same(run + "at(" + i + ") at the end", x.at(i), model.at(i));
-            Check.same(run + "who(" + i + ") at the end", x.who(i), model.who(i));
-        }
-        for (int n = 0; n <= model.events(-1); n++) {
-            Check.same(run + "was(" + n + ") at the end", x.was(n), model.was(n));
-        }
-        for (int agent = 0; agent < 256; agent++) {
-            for (int number = 0; number < model.events(agent); number++) {
-                int a = agent;
-                int b = number;
-                compare("spot(" + a + ", " + b + ") at the end", () -> x.spot(a, b), () -> model.spot(a, b));
-            }
+    private int seenOrNone() {
+        try {
+            return model.seen();
+        } catch (UnsupportedOperationException e) {
+            return 0;
         }
     }
 
+    /** What would be the 513th call or a later one is not made: its answer is free. */
     private void compare(String call, LongSupplier program, LongSupplier document) {
-        Check.same(run + call, told(program), told(document));
+        calls++;
+        if (calls <= CALLS) {
+            Check.same(run + call, told(program), told(document));
+        }
     }
 
     private static String told(LongSupplier call) {
         try {
             return Long.toString(call.getAsLong());
-        } catch (IndexOutOfBoundsException e) {
-            return "throws.IndexOutOfBoundsException";
         } catch (RuntimeException e) {
+            thrown.add(e.getClass().getSimpleName());
             return "throws." + e.getClass().getSimpleName();
-        }
-    }
-
-    private static long answer(LongSupplier call) {
-        try {
-            return call.getAsLong();
-        } catch (RuntimeException e) {
-            return 0;
         }
     }
 }

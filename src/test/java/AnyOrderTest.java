@@ -6,24 +6,28 @@ public final class AnyOrderTest {
     private record Edit(int agent, int first, int[][] parents, boolean deletes, int index, int code, int n) {
     }
 
+    private static final int[] NAMES = {9, 200, 0, 31, 77};
+    /** So few that neither finding them nor looking at all that they made takes more than 512 calls. */
+    private static final int EDITS = 40;
+
     public static void main(String[] args) {
-        for (int seed = 1; seed <= 60; seed++) {
+        for (int seed = 1; seed <= 100; seed++) {
             Dice dice = new Dice(seed);
-            List<Edit> edits = new ArrayList<>();
-            WeaveCore x = write(dice, edits);
+            List<Edit> edits = edits(dice);
+            String due = told(write(edits));
             for (int again = 0; again < 4; again++) {
-                same("seed " + seed, write(shuffled(dice, edits)), x);
+                Check.same("seed " + seed + " in another order", told(write(shuffled(dice, edits))), due);
             }
         }
         Check.end();
     }
 
-    private static WeaveCore write(Dice dice, List<Edit> edits) {
+    private static List<Edit> edits(Dice dice) {
         WeaveCore x = new WeaveCore();
-        int[] names = {9, 200, 0, 31, 77};
-        for (int i = 0; i < 40; i++) {
-            int agent = names[dice.below(names.length)];
-            int[][] parents = parents(x, dice, agent, names);
+        List<Edit> edits = new ArrayList<>();
+        for (int i = 0; i < EDITS; i++) {
+            int agent = NAMES[dice.below(NAMES.length)];
+            int[][] parents = parents(x, dice, agent);
             enlist(x, parents);
             int seen = x.seen();
             boolean deletes = seen > 0 && dice.oneIn(3);
@@ -33,18 +37,20 @@ public final class AnyOrderTest {
             edits.add(edit);
             carryOut(x, edit);
         }
-        return x;
+        return edits;
     }
 
     /** The agent's latest event, and now and then one of another's that is not before or behind it. */
-    private static int[][] parents(WeaveCore x, Dice dice, int agent, int[] names) {
+    private static int[][] parents(WeaveCore x, Dice dice, int agent) {
         List<int[]> parents = new ArrayList<>();
-        if (x.events(agent) > 0) {
-            parents.add(new int[] {agent, x.events(agent) - 1});
+        int own = x.events(agent);
+        if (own > 0) {
+            parents.add(new int[] {agent, own - 1});
         }
-        int other = names[dice.below(names.length)];
-        if (other != agent && x.events(other) > 0) {
-            int[] id = {other, dice.below(x.events(other))};
+        int other = NAMES[dice.below(NAMES.length)];
+        int others = x.events(other);
+        if (other != agent && others > 0) {
+            int[] id = {other, dice.below(others)};
             parents.add(id);
             if (isTangled(x, parents)) {
                 parents.remove(id);
@@ -130,18 +136,22 @@ public final class AnyOrderTest {
         return done.stream().filter(edit -> edit.agent() == agent).mapToInt(Edit::n).sum();
     }
 
-    private static void same(String what, WeaveCore got, WeaveCore due) {
-        Check.same(what + ": text", Check.text(got), Check.text(due));
-        Check.same(what + ": heads", got.heads(), due.heads());
-        for (int i = 0; i < due.length(); i++) {
-            Check.same(what + ": who(" + i + ")", got.who(i), due.who(i));
+    /** All that does not depend on the order in which the edits came. */
+    private static String told(WeaveCore x) {
+        StringBuilder all = new StringBuilder("text ").append(Check.text(x));
+        all.append(" heads ").append(x.heads()).append(" seen ").append(x.seen()).append(" who");
+        int length = x.length();
+        for (int i = 0; i < length; i++) {
+            all.append(' ').append(x.who(i));
         }
-        for (int agent = 0; agent < 256; agent++) {
-            for (int number = 0; number < due.events(agent); number++) {
-                Check.same(what + ": spot(" + agent + ", " + number + ")",
-                        spotOrNone(got, agent, number), spotOrNone(due, agent, number));
+        for (int agent : NAMES) {
+            int count = x.events(agent);
+            all.append(" spots of ").append(agent);
+            for (int number = 0; number < count; number++) {
+                all.append(' ').append(spotOrNone(x, agent, number));
             }
         }
+        return all.toString();
     }
 
     private static int spotOrNone(WeaveCore x, int agent, int number) {

@@ -41,7 +41,8 @@ final class Check {
     /** The whole text, as at answers it. */
     static String text(WeaveCore x) {
         StringBuilder all = new StringBuilder();
-        for (int i = 0; i < x.length(); i++) {
+        int length = x.length();
+        for (int i = 0; i < length; i++) {
             all.appendCodePoint(x.at(i));
         }
         return all.toString();
@@ -50,7 +51,8 @@ final class Check {
     /** The text of the first n events, as wasAt answers it. */
     static String oldText(WeaveCore x, int n) {
         StringBuilder all = new StringBuilder();
-        for (int i = 0; i < x.was(n); i++) {
+        int length = x.was(n);
+        for (int i = 0; i < length; i++) {
             all.appendCodePoint(x.wasAt(n, i));
         }
         return all.toString();

@@ -1,27 +1,33 @@
 import java.util.ArrayList;
+import java.util.BitSet;
 import java.util.HashSet;
 import java.util.List;
 import java.util.NoSuchElementException;
 import java.util.Set;
 
 /**
- * The document's words as they stand, with no thought of speed: every event has the set of its
- * ancestors, and every order is walked anew from the tree. The tests hold WeaveCore against it.
+ * The document's words as they stand: every event has the set of all its ancestors, and every text is
+ * read anew from the tree, walked from its root. The tests hold WeaveCore against it, full graphs too;
+ * the walk of a tree that is as deep needs a thread with room for it.
  */
 final class Model {
-    static final class Event {
+    private static final class Event {
         int agent;
         int number;
-        final Set<Event> ancestors = new HashSet<>();
+        /** Its place among all that came, by which the sets of events know it. */
+        int place;
+        BitSet ancestors = new BitSet();
         boolean inserts;
         int code;
-        /** What it hangs on, null for the root. */
-        Event on;
-        boolean atLeft;
+        /** What hangs on it, each by its id. */
+        final List<Event> lefts = new ArrayList<>();
+        final List<Event> rights = new ArrayList<>();
+        /** The node that it deletes. */
         Event target;
     }
 
     private final List<Event> came = new ArrayList<>();
+    private final Event root = new Event();
     private final Set<Event> list = new HashSet<>();
 
     int parent(int agent, int number) {
@@ -38,8 +44,12 @@ final class Model {
 
     int heads() {
         list.clear();
+        BitSet ancestors = new BitSet();
         for (Event event : came) {
-            if (came.stream().noneMatch(other -> other.ancestors.contains(event))) {
+            ancestors.or(event.ancestors);
+        }
+        for (Event event : came) {
+            if (!ancestors.get(event.place)) {
                 list.add(event);
             }
         }
@@ -60,7 +70,7 @@ final class Model {
         }
         refuseTooMany(agent, n);
         for (int i = 0; i < n; i++) {
-            Event event = come(agent, parents);
+            Event event = event(agent, parents);
             event.inserts = true;
             event.code = code + i;
             hang(event, index + i);
@@ -78,7 +88,7 @@ final class Model {
         }
         refuseTooMany(agent, n);
         for (int i = 0; i < n; i++) {
-            Event event = come(agent, parents);
+            Event event = event(agent, parents);
             event.target = seenBy(event.ancestors).get(index);
             came.add(event);
             parents = Set.of(event);
@@ -95,7 +105,7 @@ final class Model {
     }
 
     long who(int index) {
-        Event event = seenBy(new HashSet<>(came)).get(index);
+        Event event = first(came.size()).get(index);
         return (1L << 32) * event.agent + event.number;
     }
 
@@ -104,7 +114,7 @@ final class Model {
         if (!event.inserts) {
             throw new UnsupportedOperationException();
         }
-        return order(new HashSet<>(came)).indexOf(event);
+        return order().indexOf(event);
     }
 
     int was(int n) {
@@ -116,9 +126,10 @@ final class Model {
     }
 
     int line(int n) {
+        List<Event> text = first(came.size());
         List<Integer> begins = new ArrayList<>(List.of(0));
-        for (int i = 0; i < length(); i++) {
-            if (at(i) == 10) {
+        for (int i = 0; i < text.size(); i++) {
+            if (text.get(i).code == 10) {
                 begins.add(i + 1);
             }
         }
@@ -151,7 +162,7 @@ final class Model {
     private static void refuseTangles(Set<Event> parents) {
         for (Event one : parents) {
             for (Event other : parents) {
-                if (one.ancestors.contains(other)) {
+                if (one.ancestors.get(other.place)) {
                     throw new UnsupportedOperationException();
                 }
             }
@@ -162,7 +173,8 @@ final class Model {
         Set<Event> parents = Set.copyOf(list);
         list.clear();
         refuseTangles(parents);
-        if (events(agent) > 0 && !withAncestors(parents).contains(find(agent, events(agent) - 1))) {
+        int count = events(agent);
+        if (count > 0 && !withAncestors(parents).get(find(agent, count - 1).place)) {
             throw new UnsupportedOperationException();
         }
         return parents;
@@ -175,71 +187,87 @@ final class Model {
         }
     }
 
-    private Event come(int agent, Set<Event> parents) {
+    private Event event(int agent, Set<Event> parents) {
         Event event = new Event();
         event.agent = agent;
         event.number = events(agent);
-        event.ancestors.addAll(withAncestors(parents));
+        event.place = came.size();
+        event.ancestors = withAncestors(parents);
         return event;
     }
 
-    private static Set<Event> withAncestors(Set<Event> parents) {
-        Set<Event> all = new HashSet<>(parents);
+    private static BitSet withAncestors(Set<Event> parents) {
+        BitSet all = new BitSet();
         for (Event event : parents) {
-            all.addAll(event.ancestors);
+            all.set(event.place);
+            all.or(event.ancestors);
         }
         return all;
     }
 
     private void hang(Event event, int index) {
-        List<Event> known = order(event.ancestors);
-        Event left = index == 0 ? null : seenBy(event.ancestors).get(index - 1);
-        boolean taken = known.stream().anyMatch(node -> node.on == left && !node.atLeft);
-        event.atLeft = taken;
-        event.on = taken ? known.get(known.indexOf(left) + 1) : left;
+        Event left = index == 0 ? root : seenBy(event.ancestors).get(index - 1);
+        if (left.rights.stream().noneMatch(node -> event.ancestors.get(node.place))) {
+            putById(event, left.rights);
+        } else {
+            putById(event, nextBehind(left, event.ancestors).lefts);
+        }
+    }
+
+    private Event nextBehind(Event left, BitSet ancestors) {
+        List<Event> order = order();
+        int next = order.indexOf(left) + 1;
+        while (!ancestors.get(order.get(next).place)) {
+            next++;
+        }
+        return order.get(next);
+    }
+
+    private static void putById(Event event, List<Event> siblings) {
+        siblings.add(event);
+        siblings.sort((a, b) -> a.agent != b.agent ? a.agent - b.agent : a.number - b.number);
     }
 
     private List<Event> first(int n) {
         if (n < 0 || n > came.size()) {
             throw new IndexOutOfBoundsException();
         }
-        return seenBy(new HashSet<>(came.subList(0, n)));
+        BitSet events = new BitSet();
+        events.set(0, n);
+        return seenBy(events);
     }
 
-    private static List<Event> seenBy(Set<Event> events) {
-        List<Event> nodes = order(events);
-        for (Event event : events) {
-            nodes.remove(event.target);
+    private List<Event> seenBy(BitSet events) {
+        BitSet deleted = new BitSet();
+        for (int i = events.nextSetBit(0); i >= 0; i = events.nextSetBit(i + 1)) {
+            if (!came.get(i).inserts) {
+                deleted.set(came.get(i).target.place);
+            }
+        }
+        List<Event> nodes = new ArrayList<>();
+        for (Event node : order()) {
+            if (events.get(node.place) && !deleted.get(node.place)) {
+                nodes.add(node);
+            }
         }
         return nodes;
     }
 
-    private static List<Event> order(Set<Event> events) {
-        List<Event> nodes = new ArrayList<>();
-        for (Event event : events) {
-            if (event.inserts) {
-                nodes.add(event);
-            }
-        }
-        nodes.sort((a, b) -> a.agent != b.agent ? a.agent - b.agent : a.number - b.number);
+    private List<Event> order() {
         List<Event> all = new ArrayList<>();
-        walk(nodes, null, all);
+        walk(root, all);
         return all;
     }
 
-    private static void walk(List<Event> nodes, Event on, List<Event> all) {
-        for (Event node : nodes) {
-            if (node.on == on && node.atLeft) {
-                walk(nodes, node, all);
-            }
+    private void walk(Event node, List<Event> all) {
+        for (Event left : node.lefts) {
+            walk(left, all);
         }
-        if (on != null) {
-            all.add(on);
+        if (node != root) {
+            all.add(node);
         }
-        for (Event node : nodes) {
-            if (node.on == on && !node.atLeft) {
-                walk(nodes, node, all);
-            }
+        for (Event right : node.rights) {
+            walk(right, all);
         }
     }
 }

@@ -15,12 +15,14 @@ final class Picture {
             all.append(Check.oldText(x, n)).append('/');
         }
         all.append(" text ").append(Check.text(x)).append(" lines ").append(x.line(-1)).append(" who");
-        for (int i = 0; i < x.length(); i++) {
+        int length = x.length();
+        for (int i = 0; i < length; i++) {
             all.append(' ').append(x.who(i));
         }
         all.append(" events ").append(came).append(" spots");
         for (int name : NAMES) {
-            for (int number = 0; number < x.events(name); number++) {
+            int count = x.events(name);
+            for (int number = 0; number < count; number++) {
                 all.append(' ').append(name).append('.').append(number).append('@').append(spot(x, name, number));
             }
         }
@@ -31,17 +33,14 @@ final class Picture {
     static String list(WeaveCore x) {
         StringBuilder all = new StringBuilder("list");
         for (int name : NAMES) {
-            for (int number = 0; isEvent(x, name, number); number++) {
+            int count = x.events(name);
+            for (int number = 0; number < count; number++) {
                 if (isListed(x, name, number)) {
                     all.append(' ').append(name).append('.').append(number);
                 }
             }
         }
         return all.toString();
-    }
-
-    private static boolean isEvent(WeaveCore x, int name, int number) {
-        return number < x.events(name);
     }
 
     private static boolean isListed(WeaveCore x, int name, int number) {
