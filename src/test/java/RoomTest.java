@@ -30,7 +30,7 @@ public final class RoomTest {
 
     private static void fewLargeEdits() {
         WeaveCore x = Check.full();
-        for (int calls = 166; calls < CALLS; calls += 6) {
+        for (int calls = 166; calls + 6 <= CALLS; calls += 6) {
             x.heads();
             x.seen();
             x.at(8191);
